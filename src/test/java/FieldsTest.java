@@ -48,6 +48,9 @@ public final class FieldsTest {
             checks.due("sea at " + f, sea[f], x.field(f, 0));
         }
         checks.due("height in the last line", 7, x.field(11, 1));
+        LakeRelief longer = Reliefs.stripsOf(Reliefs.row(1, 2, 3, 4));
+        checks.due("what is beyond the width is not laid", 3, longer.lay(3, 2));
+        checks.due("nor in the next line", 1, longer.field(3, 0));
     }
 
     private void layRefused() {

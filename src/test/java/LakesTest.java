@@ -10,6 +10,7 @@ public final class LakesTest {
         test.fourAtOneRim();
         test.groundAtOneRim();
         test.spillBesideGroundOfTheSea();
+        test.spillByRimsOfOthers();
         test.plainSpill();
         test.likeHeights();
         test.threeSteps();
@@ -80,6 +81,21 @@ public final class LakesTest {
         checks.due("two lakes that spill at one rim", 2, two.count(3));
         lakeIs("one rim to sea", two, 0, 0, 4, 7, SEA, NONE, NONE, 1, 3, 1, 0);
         lakeIs("one rim to sea", two, 1, 0, 10, 7, SEA, NONE, NONE, 1, 2, 1, 0);
+    }
+
+    // Each rim to SEA opens the next: 12 by the edge, 10 by 12's ground, 8 by 10's ground, 25 by 10's rim.
+    private void spillByRimsOfOthers() {
+        LakeRelief x = Reliefs.laid(
+            Reliefs.row(20, 20, 20, 20, 20, 20, 20),
+            Reliefs.row(20, 0, 8, 1, 6, 2, 4),
+            Reliefs.row(20, 20, 20, 20, 7, 20, 20),
+            Reliefs.row(20, 20, 20, 20, 3, 20, 20),
+            Reliefs.row(20, 20, 20, 20, 20, 20, 20));
+        checks.due("lakes", 4, x.count(3));
+        lakeIs("by others", x, 0, 0, 8, 9, SEA, NONE, NONE, 1, 8, 1, 0);
+        lakeIs("by others", x, 1, 0, 10, 11, SEA, NONE, NONE, 1, 5, 1, 0);
+        lakeIs("by others", x, 2, 0, 12, 13, SEA, NONE, NONE, 1, 2, 1, 0);
+        lakeIs("by others", x, 3, 0, 25, 18, SEA, NONE, NONE, 1, 4, 1, 0);
     }
 
     private void plainSpill() {
