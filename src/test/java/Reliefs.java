@@ -66,4 +66,38 @@ final class Reliefs {
             row(5, -3, -1, 5),
             row(5, 5, 5, 5));
     }
+
+    /** Two hollows, 6 (1) and 8 (3), whose lakes join at 7 (5); their double spills at 1 (9). */
+    static LakeRelief pools() {
+        return laid(
+            row(9, 9, 9, 9, 9),
+            row(9, 1, 5, 3, 9),
+            row(9, 9, 9, 9, 9));
+    }
+
+    /** Six by six fields inside, in turn the deepest and one below the highest: 18 hollows, as many as can be. */
+    static LakeRelief chequered() {
+        int[][] rows = new int[8][8];
+        for (int r = 0; r < 8; r++) {
+            for (int c = 0; c < 8; c++) {
+                boolean isEdge = r == 0 || c == 0 || r == 7 || c == 7;
+                rows[r][c] = isEdge ? 1000000 : (r + c) % 2 == 0 ? -1000000 : 999999;
+            }
+        }
+        return laid(rows);
+    }
+
+    static LakeRelief sea(int w, int h) {
+        LakeRelief x = new LakeRelief();
+        x.lay(w, h);
+        return x;
+    }
+
+    /** One field of the deepest, 4, in a rim of the highest. */
+    static LakeRelief deep() {
+        return laid(
+            row(1000000, 1000000, 1000000),
+            row(1000000, -1000000, 1000000),
+            row(1000000, 1000000, 1000000));
+    }
 }
