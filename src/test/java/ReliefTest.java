@@ -362,6 +362,12 @@ public final class ReliefTest {
             checks.due("the strips stay too", height, x.told(2, 3));
             checks.due("lay without that line", 8, x.lay(4, 2));
         }
+        for (int f = 0; f < 12; f++) {
+            LakeRelief x = Reliefs.trough();
+            x.put(f / 4, f % 4, f % 2 == 0 ? 1000001 : -1000001);
+            checks.due("lay with one that may not be at " + f, BAD, x.lay(4, 3));
+            checks.due("lay of the lines ahead of it", f < 4 ? BAD : 4, x.lay(4, 1));
+        }
         LakeRelief fresh = Reliefs.stripsOf(Reliefs.row(1000001));
         checks.due("lay ahead of all", BAD, fresh.lay(1, 1));
         checks.due("no relief still", NO, fresh.count(0));

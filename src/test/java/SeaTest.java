@@ -68,6 +68,16 @@ public final class SeaTest {
         islandsAt(winding, at(2), 1);
     }
 
+    @Says(in = "Terms", words = "as they hang together.")
+    void eachFieldCanBeAnIsland() {
+        for (int f = 1; f < 64; f++) {
+            int[][] rows = new int[8][8];
+            rows[0][0] = 5;
+            rows[f / 8][f % 8] = 5;
+            checks.due("islands at 0 and " + f, f == 1 || f == 8 ? 1 : 2, Reliefs.laid(rows).islands(1));
+        }
+    }
+
     @Says(in = "Promise 15", words = "RISING to a level (-1000000 to 1000001):")
     void riseFromTheDeepestToAboveTheHighest() {
         LakeRelief x = Reliefs.laid(Reliefs.row(1000000, -1000000), Reliefs.row(5));

@@ -265,9 +265,12 @@ public final class StripsTest {
     void putBeyond() {
         LakeRelief x = sorts();
         for (int i : new int[] {LEAST, -1, 3, 11, 12, GREATEST}) {
-            checks.due("put at " + i, INDEX, x.put(0, i, 9));
+            for (int r = 0; r < 3; r++) {
+                checks.due("put in strip " + r + " at " + i, INDEX, x.put(r, i, 9));
+            }
+            checks.due("put in an empty one at " + i, INDEX, x.put(3, i, 9));
         }
-        checks.due("put in an empty one", INDEX, x.put(3, 0, 9));
+        checks.due("put in an empty one at 0", INDEX, x.put(3, 0, 9));
         places("nothing changed", x, 0, 1, 2, 3);
         x.strip(0, 2, 12);
         places("nothing was kept behind its end", x, 0, 0, 0, 0, 0, 0, 0, 0, 0, 0, 0, 0, 0);
@@ -294,13 +297,19 @@ public final class StripsTest {
 
     @Says(in = "Promise 4", words = "(each as it was ahead of all): 0.")
     void copyWithinOneStrip() {
-        LakeRelief x = Reliefs.stripsOf(Reliefs.row(1, 2, 3, 4, 5));
-        checks.due("copy up", 0, x.copy(0, 0, 0, 1, 4));
-        places("copied up", x, 0, 1, 1, 2, 3, 4);
-        checks.due("copy down", 0, x.copy(0, 2, 0, 1, 3));
-        places("copied down", x, 0, 1, 2, 3, 4, 4);
-        checks.due("copy to where it is", 0, x.copy(0, 0, 0, 0, 5));
-        places("as it was", x, 0, 1, 2, 3, 4, 4);
+        LakeRelief x = new LakeRelief();
+        for (int kind = 0; kind <= 2; kind++) {
+            x.strip(kind, kind, 5);
+            for (int i = 0; i < 5; i++) {
+                x.put(kind, i, i + 1);
+            }
+            checks.due("copy up", 0, x.copy(kind, 0, kind, 1, 4));
+            places("copied up", x, kind, 1, 1, 2, 3, 4);
+            checks.due("copy down", 0, x.copy(kind, 2, kind, 1, 3));
+            places("copied down", x, kind, 1, 2, 3, 4, 4);
+            checks.due("copy to where it is", 0, x.copy(kind, 0, kind, 0, 5));
+            places("as it was", x, kind, 1, 2, 3, 4, 4);
+        }
     }
 
     @Says(in = "Promise 4", words = "n places of STRIP r from i on come to STRIP t from j on (each")

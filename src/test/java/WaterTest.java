@@ -50,6 +50,15 @@ public final class WaterTest {
             Reliefs.row(9, 9, 9, 9, 9));
     }
 
+    /** Lake 0 at 16 (1) has room for two; 8 and 13 (3) and their double, 3, whose rim is 15, have none. */
+    private static LakeRelief longShelf() {
+        return Reliefs.laid(
+            Reliefs.row(9, 9, 9, 9, 9, 9),
+            Reliefs.row(9, 9, 3, 9, 9, 9),
+            Reliefs.row(9, 3, 3, 3, 1, 9),
+            Reliefs.row(9, 9, 9, 9, 9, 9));
+    }
+
     // ---- where it goes
 
     @Says(in = "Terms", words = "POURED are grains, at a FIELD.")
@@ -171,6 +180,17 @@ public final class WaterTest {
         waters("over to the last", x, AWAY, AWAY, AWAY, 1, AWAY, 12, AWAY);
     }
 
+    // A double of no room has as much as its MOST when it is not there, and is not FULL for all that.
+    @Says(in = "Terms", words = "if the other PART is there, and FULL, both go,")
+    void otherPartOfNoRoomThatIsNotThere() {
+        LakeRelief x = longShelf();
+        x.pour(16, 2);
+        waters("full", x, 2, 0, 0, AWAY, AWAY);
+        checks.due("over to the shelf, which joins, and joins it", 0, x.pour(16, 1));
+        waters("all joined, none left behind", x, AWAY, AWAY, AWAY, AWAY, 3);
+        checks.due("lakes there", 1, x.count(4));
+    }
+
     @Says(in = "Terms", words = {"Else the rest goes over the RIM: to the LOWEST NEIGHBOUR of the RIM",
         "that is in the other PART's GROUND,"})
     void restGoesOverToTheLowestOfTheOther() {
@@ -216,6 +236,9 @@ public final class WaterTest {
         LakeRelief joining = shelf();
         joining.pour(8, 3);
         waters("the other is full with nothing", joining, AWAY, AWAY, 3);
+        LakeRelief twice = longShelf();
+        checks.due("one grain on a long shelf", 0, twice.pour(8, 1));
+        waters("a double of no room is full at once too", twice, 1, AWAY, AWAY, 0, AWAY);
         LakeRelief toSea = Reliefs.laid(
             Reliefs.row(3, 3, 3, 3),
             Reliefs.row(9, 9, 3, 3),
@@ -278,6 +301,9 @@ public final class WaterTest {
         levelIs("no room, dry", Reliefs.flat(), 0, 3, 1);
         levelIs("below 0, dry", Reliefs.trough(), 0, -3, 1);
         levelIs("the deepest, dry", Reliefs.deep(), 0, -1000000, 1);
+        LakeRelief shelf = longShelf();
+        shelf.pour(8, 1);
+        levelIs("a double of no room, dry", shelf, 3, 3, 1);
         LakeRelief likes = Reliefs.laid(
             Reliefs.row(9, 9, 9, 9),
             Reliefs.row(9, 4, 4, 9),
