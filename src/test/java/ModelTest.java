@@ -3,7 +3,12 @@ import java.util.Random;
 /** Promises 1 to 17 once more: runs of calls, the same at each go, each answer against the model's. */
 public final class ModelTest {
     private static final int RUNS = 400;
+    /** Behind so many calls what an object answers is free. */
     private static final int CALLS = 512;
+    private static final int CALLS_ON_EACH_RELIEF = 110;
+    private static final int CALLS_TO_LAY = 8 + 64 + 1;
+    /** How many one go of call() makes at most. */
+    private static final int CALLS_AT_ONCE = 5;
     private static final int[] ODD = {Integer.MIN_VALUE, -1000001, -1000000, -5, -2, -1, 12, 13, 63, 64, 1000000,
         1000001, 1000002, Integer.MAX_VALUE};
 
@@ -40,15 +45,18 @@ public final class ModelTest {
     }
 
     private void go() {
-        for (int k = 0; k < 10; k++) {
-            call();
-        }
-        while (calls < CALLS - 140) {
+        callUpTo(10);
+        while (calls + CALLS_TO_LAY + CALLS_ON_EACH_RELIEF <= CALLS) {
             layAnew();
-            for (int k = 0; k < 110; k++) {
-                call();
-            }
+            callUpTo(calls + CALLS_ON_EACH_RELIEF);
             doublesSeen += model.doublesThere();
+        }
+        callUpTo(CALLS);
+    }
+
+    private void callUpTo(int bound) {
+        while (calls + CALLS_AT_ONCE <= bound) {
+            call();
         }
     }
 
