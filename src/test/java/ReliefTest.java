@@ -314,6 +314,21 @@ public final class ReliefTest {
         checks.due("no lake of the one ahead", FIELD_BAD, x.lake(0, 9));
     }
 
+    @Says(in = "Promise 6", words = "A RELIEF of w FIELDS in each of h LINES is LAID, with no WATER")
+    void layLeavesNoLakeOfTheOneAhead() {
+        LakeRelief x = Reliefs.star();
+        x.put(1, 2, 9);
+        x.put(2, 1, 9);
+        x.put(2, 3, 9);
+        checks.due("lay with one hollow in place of four", 25, x.lay(5, 5));
+        checks.due("lakes", 1, x.count(3));
+        checks.due("lakes there", 1, x.count(4));
+        for (int f = 0; f < 25; f++) {
+            checks.due("lake at " + f, f == 12 || f == 17 ? 0 : NONE, x.field(f, LAKE));
+        }
+        checks.due("all that the one lake can't hold is gone", 100 - 13, x.pour(17, 100));
+    }
+
     @Says(in = "Promise 6", words = "how many of its FIELDS are no SEA.")
     void layTellsHowManyAreNoSea() {
         LakeRelief x = Reliefs.stripsOf(Reliefs.row(1, 2, 3), null, Reliefs.row(4), Reliefs.row());
