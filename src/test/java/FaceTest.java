@@ -25,6 +25,7 @@ public final class FaceTest {
         "synchronized", "assert", "->", "::", "Exact", "Object", "System.out", "equals", "hashCode", "toString");
     private static final int LONGEST_METHOD = 60;
     private static final int MOST_FIELDS = 20;
+    private static final int MOST_PARAMETERS = 7;
 
     private final Checks checks = new Checks();
 
@@ -105,6 +106,14 @@ public final class FaceTest {
             checks.holds(one + " is not public", !Modifier.isPublic(one.getModifiers()));
             long fields = Arrays.stream(one.getDeclaredFields()).filter(f -> !Modifier.isStatic(f.getModifiers())).count();
             checks.holds(one + " has few fields", fields <= MOST_FIELDS);
+            fewParameters(one);
+        }
+        fewParameters(LakeRelief.class);
+    }
+
+    private void fewParameters(Class<?> one) {
+        for (Method method : one.getDeclaredMethods()) {
+            checks.holds(method + " has few parameters", method.getParameterCount() <= MOST_PARAMETERS);
         }
     }
 
@@ -137,6 +146,14 @@ public final class FaceTest {
                 checks.holds("short: " + lines.get(begin).strip(), i - begin < LONGEST_METHOD);
                 begin = -1;
             }
+            // All calls of a run share one room: what is made once for an object is not made again by a call.
+            if (begin >= 0 && line.matches(".*\\bnew .*")) {
+                checks.holds("made in a constructor: " + line.strip(), isConstructor(lines.get(begin)));
+            }
         }
+    }
+
+    private static boolean isConstructor(String line) {
+        return line.strip().matches("(public )?[A-Z]\\w*\\(.*\\) \\{");
     }
 }

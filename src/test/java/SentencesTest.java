@@ -17,6 +17,7 @@ public final class SentencesTest {
             + " fill, spill over their rims and join, told by one tree; water poured drop by drop, what goes to the"
             + " sea; how high all stands when it rains without end, a sea that rises, islands, rivers.",
         "what later calls answer is free.");
+    private static final List<String> NO_SENTENCES = List.of("SentencesTest", "ModelTest", "FaceTest", "ReadmeTest");
 
     private final Checks checks = new Checks();
     private final Document document = new Document();
@@ -39,7 +40,7 @@ public final class SentencesTest {
             return files.map(file -> file.getFileName().toString())
                 .filter(name -> name.endsWith("Test.java"))
                 .map(name -> name.replace(".java", ""))
-                .filter(name -> !List.of("SentencesTest", "ModelTest", "FaceTest").contains(name))
+                .filter(name -> !NO_SENTENCES.contains(name))
                 .sorted().collect(Collectors.toList());
         }
     }
